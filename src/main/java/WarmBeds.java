@@ -23,6 +23,8 @@ public final class WarmBeds {
     private final Party company = new Party();
     private final Guesses guesses = new Guesses();
     private final Inn inn;
+    /** Where a GUEST is at last who comes at each place; with 48 EVENTS nobody may come. */
+    private final int[] bedsByPlace = new int[MOST_SIGNS];
 
     public WarmBeds() {
         Inn made = new Inn(house, null);
@@ -187,10 +189,11 @@ public final class WarmBeds {
         if (refusal != FINE) {
             return refusal;
         }
+        tryAllPlaces(guest);
         int places = 0;
         int first = NONE;
         for (int place = 0; place <= day.length; place++) {
-            if (bedComingAt(guest, place) == bed) {
+            if (bedComingAt(place) == bed) {
                 first = places == 0 ? place : first;
                 places++;
             }
@@ -206,6 +209,7 @@ public final class WarmBeds {
         if (refusal != FINE) {
             return refusal;
         }
+        tryAllPlaces(guest);
         int best = 0;
         int most = worthComingAt(guest, 0);
         for (int place = 1; place <= day.length; place++) {
@@ -440,16 +444,24 @@ public final class WarmBeds {
         return day.isFull() ? FULL : FINE;
     }
 
-    private int bedComingAt(int guest, int place) {
+    private void tryAllPlaces(int guest) {
+        Inn branch = inn.deeper;
         inn.open(house.law);
-        inn.live(day, 0, place);
-        inn.takeIn(guest);
-        inn.live(day, place, day.length);
-        return inn.bedOf(guest);
+        for (int place = 0; branch != null && place <= day.length && place < MOST_SIGNS; place++) {
+            branch.standAs(inn);
+            branch.takeIn(guest);
+            branch.live(day, place, day.length);
+            bedsByPlace[place] = branch.bedOf(guest);
+            inn.live(day, place, place + 1);
+        }
+    }
+
+    private int bedComingAt(int place) {
+        return place >= 0 && place < MOST_SIGNS ? bedsByPlace[place] : NOWHERE;
     }
 
     private int worthComingAt(int guest, int place) {
-        int bed = bedComingAt(guest, place);
+        int bed = bedComingAt(place);
         return bed == NOWHERE ? -1 : house.worthOf(guest, bed);
     }
 
@@ -652,6 +664,7 @@ public final class WarmBeds {
         private final int[] lastOnes = new int[MOST_BEDS];
         private int guestsWithFleas;
         private int bedsWithFleas;
+        private boolean isCounting;
 
         private Inn(House house, Inn deeper) {
             this.house = house;
@@ -665,6 +678,7 @@ public final class WarmBeds {
             waiting = 0;
             guestsWithFleas = 0;
             bedsWithFleas = 0;
+            isCounting = true;
             for (int bed = 0; bed < MOST_BEDS; bed++) {
                 sleepers[bed] = NOBODY;
                 lastOnes[bed] = NOBODY;
@@ -679,6 +693,7 @@ public final class WarmBeds {
 
         /** Counts and fleas stay behind: no search that branches asks for them. */
         private void standAs(Inn other) {
+            isCounting = false;
             law = other.law;
             there = other.there;
             empties = other.empties;
@@ -715,7 +730,7 @@ public final class WarmBeds {
                 takeIn(sign - 'A');
             } else if (Day.isGoing(sign)) {
                 letGo(sign - 'a');
-            } else if (sign == '.') {
+            } else if (sign == '.' && isCounting) {
                 passNight();
             }
         }
