@@ -538,7 +538,7 @@ public final class WarmBeds {
 
         /** Strangers are asked for, too: no BED is worth anything to them. */
         private int worthOf(int guest, int bed) {
-            if (!isGuest(guest) || bed < 0 || bed >= MOST_BEDS) {
+            if (guest < 0 || guest >= GUESTS || bed < 0 || bed >= MOST_BEDS) {
                 return 0;
             }
             return worths[guest * MOST_BEDS + bed];
@@ -710,7 +710,13 @@ public final class WarmBeds {
                 if (whyNot(sign) != FINE) {
                     return place;
                 }
-                happen(sign);
+                if (Day.isComing(sign)) {
+                    takeIn(sign - 'A');
+                } else if (Day.isGoing(sign)) {
+                    letGo(sign - 'a');
+                } else if (sign == '.' && isCounting) {
+                    passNight();
+                }
             }
             return NONE;
         }
@@ -723,16 +729,6 @@ public final class WarmBeds {
                 return NOT_THERE;
             }
             return FINE;
-        }
-
-        private void happen(int sign) {
-            if (Day.isComing(sign)) {
-                takeIn(sign - 'A');
-            } else if (Day.isGoing(sign)) {
-                letGo(sign - 'a');
-            } else if (sign == '.' && isCounting) {
-                passNight();
-            }
         }
 
         private void takeIn(int guest) {

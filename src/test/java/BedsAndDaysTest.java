@@ -61,8 +61,10 @@ final class BedsAndDaysTest {
         x = Due.day("");
         x.beds(8);
         x.worth(7, 7, 99);
+        x.worth(0, 0, 98);
         x.beds(2);
         x.beds(8);
+        Due.is("2: the first WORTH", x.told(10), 0);
         Due.is("2: WORTH of a BED that was gone", x.told(87), 0);
     }
 
@@ -104,6 +106,11 @@ final class BedsAndDaysTest {
         Due.is("4: LAW 1, left first", x.bed(2, -1), 2);
         x.rule(2);
         Due.is("4: LAW 2, least number", x.bed(2, -1), 0);
+        Due.write(x, "ABCDdabE");
+        Due.is("4: LAW 2, left neither first nor last", x.bed(4, -1), 0);
+        Due.write(x, "ABCDbadE");
+        Due.is("4: LAW 2, the second of three", x.bed(4, -1), 0);
+        Due.write(x, "ABbaC");
         x.rule(3);
         x.worth(2, 1, 5);
         x.worth(2, 2, 5);

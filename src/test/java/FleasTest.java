@@ -241,6 +241,8 @@ final class FleasTest {
         Due.write(x, "ABCDE");
         chances(x, 0, 1, 5, 1, 1);
         chances(x, 0, 2, 5, 3, 4);
+        Due.write(x, "ABCDEe");
+        chances(x, 0, 1, 5, 1, 2);
         x.rule(3);
         x.worth(7, 0, 99);
         Due.write(x, "");
@@ -341,10 +343,12 @@ final class FleasTest {
         x.worth(3, 5, 44);
         x.restore(1);
         Due.is("27: an IMAGE may be taken again", x.told(45), 43);
+        x.forget();
+        x.seen(7, 0);
+        x.seen(6, 1);
         x.restore(0);
         x.rule(0);
         Due.write(x, "?C");
-        x.worth(2, 4, 0);
         Due.is("27: SIGHTS hold as they did", x.could(0), 2);
         Due.is("27: restore(2)", x.restore(2), -2);
         Due.is("27: restore(-1)", x.restore(-1), -2);

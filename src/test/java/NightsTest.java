@@ -47,6 +47,9 @@ final class NightsTest {
         Due.is("9: likewise all", x.bed(1, -1), -3);
         Due.write(x, "????");
         Due.is("9: a FAULT ahead of some ?", x.bed(0, 0), -5);
+        Due.write(x, "?");
+        Due.is("9: some ? in the first place", x.bed(0, 1), -3);
+        Due.is("9: ahead of it", x.bed(0, 0), -6);
         Due.write(x, "Ab");
         Due.is("9: who goes is not", x.bed(0, -1), -5);
         Due.is("9: ahead of that", x.bed(0, 1), 3);

@@ -26,6 +26,13 @@ final class WhenToComeTest {
         whens(x, 4, 2, 1, 1);
         whens(x, 4, 1, 1, 2);
         whens(x, 4, 0, 1, 3);
+        x.beds(2);
+        Due.write(x, "ABCDbad");
+        whens(x, 4, 1, 6, 0);
+        whens(x, 4, 0, 2, 1);
+        Due.write(x, "ABCDb");
+        whens(x, 5, 0, 2, 1);
+        x.beds(4);
         Due.write(x, "");
         whens(x, 0, 3, 1, 0);
         whens(x, 0, 2, 0, -6);
@@ -91,6 +98,14 @@ final class WhenToComeTest {
         bests(x, 4, 1, 4);
         Due.write(x, "");
         bests(x, 4, 0, 3);
+        Due.write(x, "AB");
+        bests(x, 4, 1, 4);
+        x.beds(4);
+        x.worth(4, 1, 1);
+        bests(x, 4, 2, 1);
+        x.beds(2);
+        x.worth(4, 1, 3);
+        x.worth(4, 0, 4);
         Due.write(x, "ABCabcDGdFg");
         bests(x, 4, 1, 4);
         refusals15();
