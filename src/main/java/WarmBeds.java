@@ -889,7 +889,7 @@ public final class WarmBeds {
         }
 
         private static int bitOf(int guest) {
-            return isGuest(guest) ? 1 << guest : 0;
+            return guest >= 0 && guest < GUESTS ? 1 << guest : 0;
         }
 
         private boolean isThere(int guest) {
