@@ -92,6 +92,8 @@ final class EdgesOfComingTest {
         when("has waited, the BED that is left", Due.inn(2, "ABa"), 2, 1, 3, 0);
         when("has waited, the other BED", Due.inn(2, "ABa"), 2, 0, 1, 1);
         when("the first place is the one in which it waits", Due.inn(2, "ABb"), 2, 0, 3, 1);
+        when("behind others who wait, the last BED", Due.inn(2, "ABCDEab"), 7, 1, 2, 0);
+        when("behind others who wait, BED 0", Due.inn(2, "ABCDEab"), 7, 0, 2, 1);
     }
 
     /** "at how many places (what = 0), the first (1; NONE)" */

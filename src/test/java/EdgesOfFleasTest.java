@@ -287,6 +287,10 @@ final class EdgesOfFleasTest {
         Due.write(x, "AB?b");
         Due.is("22: who has waited is in one", x.filled(-1), 1);
         Due.is("22: that is C", x.filled(0), 2);
+        Due.write(x, "ABC?b");
+        Due.is("22: who waits ahead of the ? is next, whoever comes", x.filled(-1), 5);
+        Due.write(x, "ABD?b");
+        Due.is("22: another waits ahead of the ?", x.filled(-1), 0);
         Due.write(x, "?C");
         Due.is("22: whoever comes first", x.filled(-1), 7);
         Due.write(x, "?Cc");
@@ -351,6 +355,11 @@ final class EdgesOfFleasTest {
         x.seen(7, 2);
         Due.is("23: all but H", x.could(0), 127);
         Due.is("23: H alone", x.could(1), 128);
+        x.forget();
+        Due.is("23: nobody by one SIGHT, all without it", x.could(0), 255);
+        x.seen(5, 3);
+        Due.is("23: all without a SIGHT, one by it", x.could(0), 32);
+        Due.is("23: the second by it", x.could(1), 255 - 32);
     }
 
     /** 22, 23: "NO: there is a FAULT." and nothing else. */
@@ -441,6 +450,9 @@ final class EdgesOfFleasTest {
         chance("twice, strangers wait or do not", x, 0, 2, 5, 3, 4);
         chance("three times, strangers wait or do not", x, 0, 3, 5, 1, 2);
         chance("three times, the other BED", x, 1, 3, 5, 7, 8);
+        // Two strangers wait in the first of the sixteen ways: who has a BED then is but one of them.
+        chance("four times, another stranger each time", x, 0, 4, 5, 11, 16);
+        chance("four times, the other BED", x, 1, 4, 5, 3, 4);
     }
 
     private static void chanceIsRefused() {
