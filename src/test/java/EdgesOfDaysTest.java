@@ -4,6 +4,7 @@ final class EdgesOfDaysTest {
 
     public static void main(String[] args) {
         newObject();
+        lastOfAllCalls();
         bedsWere();
         bedsMakeWorthsAndSightsAsAtFirst();
         bedsLeaveTheRest();
@@ -33,6 +34,14 @@ final class EdgesOfDaysTest {
         }
         Due.is("1: no IMAGE 0", x.restore(0), STATE);
         Due.is("1: no IMAGE 1", x.restore(1), STATE);
+    }
+
+    /** "An object is used for at most 512 calls after it has been made" */
+    private static void lastOfAllCalls() {
+        WarmBeds x = new WarmBeds();
+        for (int call = 1; call <= 512; call++) {
+            Due.is("call " + call, x.rule(call % 4), (call - 1) % 4);
+        }
     }
 
     /** 2: "How many BEDS: which it was." */

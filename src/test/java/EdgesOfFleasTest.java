@@ -141,6 +141,10 @@ final class EdgesOfFleasTest {
         Due.is("19: either of two", Due.inn(2, "A.aH.hA.").brought(129), 129);
         Due.is("19: either of two, not one alone", Due.inn(2, "A.aH.hA.").brought(1), 0);
         Due.is("19: BEDS do not matter", Due.inn(2, "A.").brought(1), 1);
+        WarmBeds full = Due.inn(2, "A" + Due.times(".", 44) + "aH.");
+        Due.is("19: a full PAD, the last NIGHT counts", full.brought(129), 1);
+        Due.is("19: a full PAD, H alone", full.brought(128), 128);
+        Due.is("19: every BED is taken, one waits", Due.inn(2, "ABC.").brought(4), 4);
     }
 
     /** 20: "UNKNOWN; FULL." */
@@ -169,6 +173,7 @@ final class EdgesOfFleasTest {
         WarmBeds x = withSixSights();
         Due.is("20: six are told", x.told(3), 6);
         Due.is("20: six hold", x.filled(-1), 2);
+        Due.is("20: six hold, by either of two", x.could(1), 192);
         Due.refused("20: the seventh", EdgesOfFleasTest::withSixSights, y -> y.seen(6, 0), FULL);
         Due.refused("20: GUEST 8 ahead of FULL", EdgesOfFleasTest::withSixSights, y -> y.seen(8, 0), UNKNOWN);
         Due.refused("20: BED -1 ahead of FULL", EdgesOfFleasTest::withSixSights, y -> y.seen(0, -1), UNKNOWN);
@@ -338,6 +343,7 @@ final class EdgesOfFleasTest {
         Due.is("23: no ?", Due.day("AB.").could(0), NONE);
         Due.is("23: all can have been", Due.day("?").could(0), 255);
         Due.is("23: past the only one", Due.day("?").could(1), NONE);
+        Due.is("23: in the last place of a full PAD", Due.day(Due.times(".", 46) + "H?").could(0), 127);
         x = Due.day("?A?a?");
         Due.is("23: not A, who comes later", x.could(0), 254);
         Due.is("23: not A, who is there", x.could(1), 254);

@@ -1,7 +1,6 @@
 /** Promises 18 to 28. */
 final class FleasTest {
     private static final int MIN = Integer.MIN_VALUE, MAX = Integer.MAX_VALUE;
-    private static final long LOST = -1000000000000000000L;
 
     public static void main(String[] args) {
         promise18();
@@ -49,28 +48,6 @@ final class FleasTest {
         Due.write(x, "");
         fleas(x, 0, 1, 0);
         fleas(x, 9, 0, 2);
-        refusals18();
-    }
-
-    private static void refusals18() {
-        WarmBeds x = Due.day("AB.");
-        Due.is("18: BED 4 of 4", x.fleas(12, 0), -1);
-        Due.is("18: -1", x.fleas(-1, 0), -1);
-        Due.is("18: MIN", x.fleas(MIN, 0), -1);
-        Due.is("18: MAX", x.fleas(MAX, 5), -1);
-        Due.is("18: what 2", x.fleas(11, 2), -2);
-        Due.is("18: what -1", x.fleas(0, -1), -2);
-        x.say('?');
-        Due.is("18: STATE", x.fleas(0, 0), -3);
-        x.say('"');
-        Due.is("18: NO of a FAULT", x.fleas(0, 0), -5);
-        Due.is("18: OUTSIDE ahead of NO", x.fleas(0, 2), -2);
-        Due.write(x, "BB");
-        Due.is("18: NO", x.fleas(0, 0), -5);
-        x.wipe();
-        x.beds(8);
-        Due.is("18: BED 7 of 8", x.fleas(15, 1), 128);
-        Due.is("18: BED 8 of 8", x.fleas(16, 1), -1);
     }
 
     private static void promise19() {
@@ -247,25 +224,6 @@ final class FleasTest {
         x.worth(7, 0, 99);
         Due.write(x, "");
         chances(x, 0, 1, 10, 0, 1);
-        refusals24();
-    }
-
-    private static void refusals24() {
-        WarmBeds x = Due.day("AA?:");
-        Due.is("24: BED 4", x.chance(4, 9, 0, 0), LOST - 1);
-        Due.is("24: BED -1", x.chance(-1, 0, 0, 0), LOST - 1);
-        Due.is("24: m 9", x.chance(0, 9, 0, 0), LOST - 2);
-        Due.is("24: m -1", x.chance(0, -1, 0, 0), LOST - 2);
-        Due.is("24: t 11", x.chance(0, 0, 11, 0), LOST - 2);
-        Due.is("24: t -1", x.chance(0, 0, -1, 0), LOST - 2);
-        Due.is("24: part 2", x.chance(0, 0, 0, 2), LOST - 2);
-        Due.is("24: part -1", x.chance(0, 0, 0, -1), LOST - 2);
-        Due.is("24: part MIN", x.chance(0, MAX, MAX, MIN), LOST - 2);
-        Due.is("24: NO of a FAULT", x.chance(0, 0, 0, 0), LOST - 5);
-        Due.write(x, "AA?");
-        Due.is("24: STATE", x.chance(0, 0, 0, 0), LOST - 3);
-        Due.write(x, "AA");
-        Due.is("24: NO", x.chance(0, 0, 0, 0), LOST - 5);
     }
 
     private static void promise25() {

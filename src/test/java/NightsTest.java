@@ -33,26 +33,6 @@ final class NightsTest {
         Due.is("9: who left THE YARD has none", x.bed(4, -1), -6);
         Due.is("9: the next has the BED", x.bed(5, -1), 3);
         Due.is("9: who comes again waits", x.bed(0, -1), -6);
-        refusals9();
-    }
-
-    private static void refusals9() {
-        WarmBeds x = Due.day("ABB?!");
-        Due.is("9: OUTSIDE ahead of a FAULT", x.bed(0, 6), -2);
-        Due.is("9: a FAULT behind these EVENTS", x.bed(0, 1), -5);
-        Due.write(x, "ABB?");
-        Due.is("9: EVENTS that can be", x.bed(1, 2), 2);
-        Due.is("9: one that can not", x.bed(1, 3), -5);
-        Due.is("9: some ? ahead of one that can not", x.bed(1, 4), -3);
-        Due.is("9: likewise all", x.bed(1, -1), -3);
-        Due.write(x, "????");
-        Due.is("9: a FAULT ahead of some ?", x.bed(0, 0), -5);
-        Due.write(x, "?");
-        Due.is("9: some ? in the first place", x.bed(0, 1), -3);
-        Due.is("9: ahead of it", x.bed(0, 0), -6);
-        Due.write(x, "Ab");
-        Due.is("9: who goes is not", x.bed(0, -1), -5);
-        Due.is("9: ahead of that", x.bed(0, 1), 3);
     }
 
     private static void promise10() {

@@ -1,6 +1,6 @@
 /** Promises 14 to 17. */
 final class WhenToComeTest {
-    private static final int MIN = Integer.MIN_VALUE, MAX = Integer.MAX_VALUE;
+    private static final int MAX = Integer.MAX_VALUE;
 
     public static void main(String[] args) {
         promise14();
@@ -38,35 +38,6 @@ final class WhenToComeTest {
         whens(x, 0, 2, 0, -6);
         Due.write(x, Due.times(".", 47));
         whens(x, 5, 3, 48, 0);
-        refusals14();
-    }
-
-    private static void refusals14() {
-        WarmBeds x = Due.day("ABbC");
-        Due.is("14: who comes", x.when(0, 0, 0), -1);
-        Due.is("14: who comes last", x.when(2, 0, 2), -1);
-        Due.is("14: GUEST 8", x.when(8, 0, 0), -1);
-        Due.is("14: GUEST -1", x.when(-1, 0, 0), -1);
-        Due.is("14: BED 4", x.when(7, 4, 0), -1);
-        Due.is("14: BED -1", x.when(7, -1, 0), -1);
-        Due.is("14: what 2", x.when(7, 0, 2), -2);
-        Due.is("14: what -1", x.when(7, 0, -1), -2);
-        Due.write(x, "b");
-        Due.is("14: who goes", x.when(1, 0, 0), -1);
-        Due.is("14: NO", x.when(0, 0, 0), -5);
-        Due.write(x, "A!B");
-        Due.is("14: who comes behind a FAULT", x.when(1, 0, 0), -1);
-        Due.is("14: NO of a FAULT", x.when(2, 0, 0), -5);
-        Due.write(x, "AA?");
-        Due.is("14: STATE", x.when(2, 0, 0), -3);
-        Due.write(x, Due.times(".", 48));
-        Due.is("14: FULL", x.when(2, 0, 0), -4);
-        Due.is("14: OUTSIDE ahead of FULL", x.when(2, 0, MAX), -2);
-        Due.write(x, Due.times(".", 47) + "?");
-        Due.is("14: STATE ahead of FULL", x.when(2, 0, 0), -3);
-        Due.write(x, Due.times(".", 47) + "c");
-        Due.is("14: NO ahead of FULL", x.when(0, 0, 0), -5);
-        Due.is("14: the PAD stays", x.told(0), 48);
     }
 
     private static void bests(WarmBeds x, int guest, int place, int worth) {
@@ -108,27 +79,6 @@ final class WhenToComeTest {
         x.worth(4, 0, 4);
         Due.write(x, "ABCabcDGdFg");
         bests(x, 4, 1, 4);
-        refusals15();
-    }
-
-    private static void refusals15() {
-        WarmBeds x = Due.day("ABb");
-        Due.is("15: who comes", x.best(0, 0), -1);
-        Due.is("15: who comes and goes", x.best(1, 2), -1);
-        Due.is("15: GUEST 8", x.best(8, 0), -1);
-        Due.is("15: GUEST MIN", x.best(MIN, 0), -1);
-        Due.is("15: what 2", x.best(2, 2), -2);
-        Due.is("15: what -1", x.best(2, -1), -2);
-        Due.write(x, "BB");
-        Due.is("15: NO", x.best(2, 0), -5);
-        Due.write(x, "BB?");
-        Due.is("15: STATE", x.best(2, 0), -3);
-        Due.write(x, "?/");
-        Due.is("15: NO of a FAULT", x.best(2, 0), -5);
-        Due.write(x, Due.times(".", 48));
-        Due.is("15: FULL", x.best(2, 0), -4);
-        Due.write(x, "A" + Due.times(".", 46));
-        Due.is("15: 47 EVENTS", x.best(2, 1), 0);
     }
 
     private static void reached(WarmBeds x, String want) {
@@ -209,34 +159,5 @@ final class WhenToComeTest {
         x.worth(3, 0, 99);
         Due.write(x, "EFG");
         best(x, 15, 99, "DABC");
-        refusals17();
-    }
-
-    private static void refusals17() {
-        WarmBeds x = Due.day("GH");
-        Due.is("17: no set", x.party(0, -1), -2);
-        Due.is("17: set 256", x.party(256, -1), -2);
-        Due.is("17: set -1", x.party(-1, -1), -2);
-        Due.is("17: set MIN", x.party(MIN, MIN), -2);
-        Due.is("17: one is there", x.party(128 + 1, -1), -5);
-        Due.is("17: NO ahead of FULL", x.party(255, -1), -5);
-        Due.is("17: six", x.party(63, -1), 0);
-        Due.is("17: i past the last", x.party(63, 6), -6);
-        Due.is("17: i below -1", x.party(63, -2), -6);
-        Due.is("17: i MIN", x.party(63, MIN), -6);
-        Due.is("17: i MAX", x.party(63, MAX), -6);
-        Due.is("17: i past the last of one", x.party(1, 1), -6);
-        Due.write(x, "GgHh");
-        Due.is("17: seven", x.party(127, -1), -4);
-        Due.is("17: all", x.party(255, 9), -4);
-        Due.is("17: who went may come", x.party(192, 1), 7);
-        Due.write(x, "ABCDE");
-        Due.is("17: who waits is there", x.party(16, -1), -5);
-        Due.write(x, "AA");
-        Due.is("17: NO", x.party(2, -1), -5);
-        Due.write(x, "AA?");
-        Due.is("17: STATE, one is there", x.party(1, -1), -3);
-        Due.write(x, "A?~");
-        Due.is("17: NO of a FAULT", x.party(2, -1), -5);
     }
 }
