@@ -110,7 +110,8 @@ final class AgainstPlainTest {
                 due("slept", real.slept(bed, what), plain.slept(bed, what), bed, what);
             }
             case 8 -> due("fewest", real.fewest(either), plain.fewest(either), either);
-            case 9, 10 -> due("when", real.when(guest, bed, either), plain.when(guest, bed, either), guest, bed, either);
+            case 9, 10 ->
+                due("when", real.when(guest, bed, either), plain.when(guest, bed, either), guest, bed, either);
             case 11 -> due("best", real.best(guest, either), plain.best(guest, either), guest, either);
             case 12 -> due("reach", real.reach(bed), plain.reach(bed), bed);
             case 13 -> due("party", real.party(set, i), plain.party(set, i), set, i);

@@ -35,6 +35,7 @@ final class EdgesOfFleasTest {
         yearFromAnEmptyInn();
         imageBounds();
         imagesKeepAllButThePad();
+        imagesKeepEachSight();
         restoreBounds();
         restoreLeavesThePadAndTheImage();
         toldBounds();
@@ -510,6 +511,9 @@ final class EdgesOfFleasTest {
         Due.is("25: the fourth of a year", x.year(0, 4, 4), 1);
         Due.is("25: there is no fifth of four", x.year(0, 4, 3), 0);
         Due.is("25: the third of a year of three", x.year(0, 3, 5), 1);
+        for (int bed = 0; bed < 8; bed++) {
+            Due.is("25: of four who come, BED " + bed, x.year(0, 4, bed), bed >= 4 ? 1 : 0);
+        }
     }
 
     /** "from an empty inn": whatever is on the PAD, and whatever was asked ahead. */
@@ -580,6 +584,37 @@ final class EdgesOfFleasTest {
             for (int bed = 0; bed < 4; bed++) {
                 Due.is("26: no WORTH of " + bed + " to " + guest, x.told(10 + 10 * guest + bed), 0);
             }
+        }
+    }
+
+    /** Six SIGHTS that hold, of six GUESTS in six BEDS; one of them may be told of another GUEST, or of another BED. */
+    private static void tellSights(WarmBeds x, int otherGuest, int otherBed) {
+        x.forget();
+        for (int k = 0; k < 6; k++) {
+            x.seen(k == otherGuest ? 7 : k, k == otherBed ? 0 : 7 - k);
+        }
+    }
+
+    private static void imageKeepsSights(String what, int n, int otherGuest, int otherBed) {
+        WarmBeds x = Due.inn(8, "ABCDEF");
+        tellSights(x, NONE, NONE);
+        x.image(n);
+        tellSights(x, otherGuest, otherBed);
+        x.image(1 - n);
+        tellSights(x, NONE, NONE);
+        x.restore(1 - n);
+        Due.is("27: " + what + " did not hold in IMAGE " + (1 - n), x.filled(-1), 0);
+        x.restore(n);
+        Due.is("27: " + what + " held in IMAGE " + n, x.filled(-1), 1);
+    }
+
+    /** 26: "All but the PAD is kept": from the first SIGHT to the last, in either IMAGE. */
+    private static void imagesKeepEachSight() {
+        for (int k = 0; k < 6; k++) {
+            imageKeepsSights("SIGHT " + k + ", of another GUEST,", 0, k, NONE);
+            imageKeepsSights("SIGHT " + k + ", of another GUEST,", 1, k, NONE);
+            imageKeepsSights("SIGHT " + k + ", of another BED,", 0, NONE, k);
+            imageKeepsSights("SIGHT " + k + ", of another BED,", 1, NONE, k);
         }
     }
 

@@ -25,6 +25,8 @@ final class EdgesOfTermsTest {
         lawsWithAllEmpty();
         lawsWithTwoEmpty();
         lawsWithOneEmpty();
+        lawsFillAllBeds();
+        lawsAmongAllBeds();
         dearestBeds();
         noneIsEmpty();
         whoGoesLeavesTheBed();
@@ -264,6 +266,47 @@ final class EdgesOfTermsTest {
         guestHas("1: LAW 1, one is left", "ABCDbE", 1, 1);
         guestHas("1: LAW 2, one is left", "ABCDbE", 2, 1);
         guestHas("1: LAW 3, one is left", "ABCDbE", 3, 2);
+    }
+
+    /** From the first one who comes to the one who has the last empty BED, and which BEDS are empty meanwhile. */
+    private static void lawsFillAllBeds() {
+        for (int n = 2; n <= 8; n++) {
+            for (int law = 0; law < 4; law++) {
+                WarmBeds x = Due.inn(n, "ABCDEFGH".substring(0, n));
+                x.rule(law);
+                boolean fromTheLast = law == 0 || law == 3;
+                for (int k = 0; k < n; k++) {
+                    String what = "1: " + n + " BEDS, LAW " + law + ", behind " + k + ", ";
+                    Due.is(what + "who comes", x.bed(k, -1), fromTheLast ? n - 1 - k : k);
+                    Due.is(what + "left last", x.left(k, 0), fromTheLast ? n - 1 - k : n - 1);
+                    Due.is(what + "left first", x.left(k, n - 1 - k), fromTheLast ? 0 : k);
+                    Due.is(what + "there is no other", x.left(k, n - k), NONE);
+                }
+                for (int bed = 0; bed < n; bed++) {
+                    Due.is("1: " + n + " BEDS, LAW " + law + ", BED " + bed, x.who(bed, -1),
+                        fromTheLast ? n - 1 - bed : bed);
+                }
+            }
+        }
+    }
+
+    /** By LAW 2 A to H have BEDS 0 to 7; they leave them by turns, so that A leaves as the first to the eighth. */
+    private static void lawsAmongAllBeds() {
+        for (int turn = 0; turn < 8; turn++) {
+            String leaving = "abcdefgh".substring(8 - turn) + "abcdefgh".substring(0, 8 - turn);
+            WarmBeds x = Due.inn(8, "ABCDEFGH" + leaving + "H");
+            x.rule(2);
+            Due.is("1: the least number was left behind " + turn + " others", x.bed(7, -1), 0);
+            Due.is("1: nothing is left out, behind " + turn + " others", x.left(-1, 6), turn == 0 ? 1 : 8 - turn);
+            Due.is("1: the last one, behind " + turn + " others", x.left(-1, 0), turn == 7 ? 7 : 7 - turn);
+        }
+        // By LAW 3 A to G come into BEDS 7 to 1 and leave them by turns; then H has the one that is dear.
+        for (int bed = 0; bed < 8; bed++) {
+            WarmBeds x = Due.inn(8, "ABCDEFGabcdefgH");
+            x.rule(3);
+            x.worth(7, bed, 1);
+            Due.is("1: BED " + bed + " is dear, where all are empty", x.bed(7, -1), bed);
+        }
     }
 
     /** "3 that of the greatest WORTH to the GUEST, of several the one left last" */

@@ -2,6 +2,8 @@ import java.lang.reflect.Constructor;
 import java.lang.reflect.Field;
 import java.lang.reflect.Method;
 import java.lang.reflect.Modifier;
+import java.nio.file.Files;
+import java.nio.file.Path;
 import java.util.Set;
 import java.util.TreeSet;
 
@@ -15,11 +17,16 @@ final class FaceTest {
         + "public int filled(int)\npublic int could(int)\npublic long chance(int,int,int,int)\n"
         + "public int year(int,int,int)\npublic int image(int)\npublic int restore(int)\npublic int told(int)\n";
 
+    /** "Ahead of the calls ... the interface says: ---- ...", in the order of the document. */
+    private static final String INTERFACE = "---- 1 beds, days beds worth rule say wipe fault judge "
+        + "---- 2 nights bed who left slept fewest ---- 3 when to come when best reach party "
+        + "---- 4 fleas, what is not told fleas brought seen forget filled could chance year image restore told";
+
     private static String faceOf(Method method) {
         return method.toString().replace("WarmBeds.", "");
     }
 
-    public static void main(String[] args) {
+    public static void main(String[] args) throws Exception {
         Set<String> want = new TreeSet<>(Set.of(FACE.trim().split("\n")));
         Set<String> got = new TreeSet<>();
         Set<String> names = new TreeSet<>();
@@ -30,7 +37,11 @@ final class FaceTest {
             }
         }
         Due.are("the methods", got.toString(), want.toString());
-        Due.is("the class is final", Modifier.isFinal(WarmBeds.class.getModifiers()) ? 1 : 0, 1);
+        Due.is("the class is public and final", WarmBeds.class.getModifiers(), Modifier.PUBLIC | Modifier.FINAL);
+        Due.is("the class is no other one's", WarmBeds.class.getSuperclass() == Object.class ? 1 : 0, 1);
+        Due.is("the class takes on no more", WarmBeds.class.getInterfaces().length, 0);
+        Due.are("the package", WarmBeds.class.getPackageName(), "");
+        interfaceSays();
         constants();
         constructors();
         privateNames(WarmBeds.class, names);
@@ -40,6 +51,18 @@ final class FaceTest {
             privateNames(inside, names);
         }
         Due.end();
+    }
+
+    private static void interfaceSays() throws Exception {
+        StringBuilder got = new StringBuilder();
+        for (String line : Files.readAllLines(Path.of("src/main/java/WarmBeds.java"))) {
+            if (line.matches("    // ---- \\d .*")) {
+                got.append(line.trim().substring(3)).append(' ');
+            } else if (line.matches("    public (int|long) \\w+\\(.*")) {
+                got.append(line.replaceAll("    public \\w+ (\\w+)\\(.*", "$1")).append(' ');
+            }
+        }
+        Due.are("the interface", got.toString(), INTERFACE);
     }
 
     private static void constants() {
